@@ -530,6 +530,11 @@ public final class NumberComes {
         return high;
     }
 
+    /** The least common multiple of two that are above 0. */
+    private static long common(long a, long b) {
+        return a / gcd(a, b) * b;
+    }
+
     /** All that an image keeps. A pair is held as bits, since nothing asks which of both was told first. */
     private static final class State {
         int people;
@@ -1726,8 +1731,8 @@ public final class NumberComes {
         private int parted;
         private final int[] members = new int[MOST_PARTED];
         private final int[] firsts = new int[MOST_PARTED];
-        // From this on a first does what a lesser one does.
-        private final int[] spans = new int[MOST_PARTED];
+        // A row for each depth: the firsts (bits) that those who come before leave to each.
+        private final long[] choices = new long[MOST_PARTED * MOST_PARTED];
         private final int[] shared = new int[MOST_PEOPLE];
 
         Searches(State now) {
@@ -1752,21 +1757,21 @@ public final class NumberComes {
             for (int i = 0; i < now.people && parted < MOST_PARTED; i++) {
                 if (isOf(i, set)) {
                     members[parted] = i;
-                    spans[parted] = spanOf(i, set);
+                    choices[parted] = (1L << spanOf(i, set)) - 1;
                     parted++;
                 }
             }
             // All firsts can be moved alike: so the lowest one's is 0.
-            spans[0] = 1;
+            choices[0] = 1;
             return place(0);
         }
 
+        /** From this on a first does what a lesser one does: it is at most the number. */
         private int spanOf(int one, int set) {
             long span = 1;
             for (int i = 0; i < now.people; i++) {
                 if (i != one && isOf(i, set)) {
-                    long both = gcd(now.number[one], now.number[i]);
-                    span = span / gcd(span, both) * both;
+                    span = common(span, gcd(now.number[one], now.number[i]));
                 }
             }
             return (int) span;
@@ -1776,21 +1781,30 @@ public final class NumberComes {
             if (index >= parted || index >= MOST_PARTED) {
                 return true;
             }
-            for (int i = 0; i < spans[index]; i++) {
-                firsts[index] = i;
-                if (isFree(index) && place(index + 1)) {
-                    return true;
+            long mine = choices[MOST_PARTED * index + index];
+            for (int i = 0; i < GREATEST_PARTED; i++) {
+                if ((mine >>> i & 1) != 0) {
+                    firsts[index] = i;
+                    if (leavesChoices(index) && place(index + 1)) {
+                        return true;
+                    }
                 }
             }
             return false;
         }
 
-        private boolean isFree(int index) {
-            for (int i = 0; i < index; i++) {
-                long both = gcd(now.number[members[i]], now.number[members[index]]);
-                if ((firsts[i] - firsts[index]) % both == 0) {
+        /** Lays the next depth's choices: those behind lose what one's first bars to them. */
+        private boolean leavesChoices(int index) {
+            for (int i = index + 1; i < parted && i < MOST_PARTED; i++) {
+                int both = (int) gcd(now.number[members[index]], now.number[members[i]]);
+                long left = choices[MOST_PARTED * index + i];
+                for (int j = firsts[index] % both; j < GREATEST_PARTED; j += Math.max(1, both)) {
+                    left &= ~(1L << j);
+                }
+                if (left == 0) {
                     return false;
                 }
+                choices[MOST_PARTED * (index + 1) + i] = left;
             }
             return true;
         }
@@ -1833,7 +1847,7 @@ public final class NumberComes {
             for (int i = 0; i < now.people; i++) {
                 if (isOf(i, some)) {
                     shared[i] = (int) gcd(number, now.number[i]);
-                    span = span / gcd(span, shared[i]) * shared[i];
+                    span = common(span, shared[i]);
                 }
             }
             return (int) span;
@@ -1928,17 +1942,13 @@ public final class NumberComes {
 
         private int hoursToCover() {
             if (now.day > 0) {
-                return common(now.day, now.clock);
+                return (int) common(now.day, now.clock);
             }
             int hours = now.clock;
             for (int i = 0; i < now.people && hours <= MOST_HOURS; i++) {
-                hours = common(hours, now.number[i]);
+                hours = (int) common(hours, now.number[i]);
             }
             return hours;
-        }
-
-        private static int common(int a, int b) {
-            return a / (int) gcd(a, b) * b;
         }
 
         private boolean has(int set) {
