@@ -1022,13 +1022,18 @@ public final class NumberComes {
             }
             boolean negates = token == '-';
             advance();
-            if (!negates) {
-                return readSum(open + 1) && takeSign(')');
+            if (negates) {
+                boolean good = readOne(open + 1);
+                text.addStep(Machine.NEGATE);
+                return good;
             }
-            if (!readOne(open + 1)) {
+            if (!readSum(open + 1)) {
                 return false;
             }
-            text.addStep(Machine.NEGATE);
+            if (token != ')') {
+                return fail(CANT_STAND);
+            }
+            advance();
             return true;
         }
 
