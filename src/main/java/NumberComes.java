@@ -624,7 +624,9 @@ public final class NumberComes {
 
         void addHeard(int hour, boolean is) {
             heardHour[heards] = hour;
-            heardIs = is ? heardIs | 1 << heards : heardIs & ~(1 << heards);
+            if (is) {
+                heardIs |= 1 << heards;
+            }
             heards++;
         }
 
@@ -1457,8 +1459,9 @@ public final class NumberComes {
             return hours / round * Long.bitCount(whole) + Long.bitCount(rest);
         }
 
+        /** What comes behind the last clock is left over there; no such clock is open. */
         private long turned(long clocks, int by) {
-            return (clocks << by | clocks >>> now.clock - by) & (1L << now.clock) - 1;
+            return clocks << by | clocks >>> now.clock - by;
         }
 
         private long firstByDay(int set, long hour, long open) {

@@ -238,6 +238,9 @@ public final class PromisesTest {
         fault(" ;", 1, 1);
         fault("Bars clock=1;", 1, 0);
         fault("barsclock=1;", 1, 0);
+        for (String letter : new String[] {"a", "z", "A", "Z"}) fault("bars" + letter + " clock=1;", 1, 0);
+        for (String sign : new String[] {"`", "{", "@", "["}) fault("bars" + sign + " clock=1;", 1, 4);
+        for (String sign : new String[] {"/", ":"}) fault("bars 1" + sign + ";", 1, sign.equals("/") ? 7 : 6);
         fault("bars clock=1", 1, 12);
         fault("bars clock=1  ", 1, 14);
         fault("bars clock;", 1, 10);
@@ -313,6 +316,11 @@ public final class PromisesTest {
         fault("bars 1=asked;", 5, 7);
         fault("bars 1=-hours;", 5, 8);
         fault("bars 1 got;", 1, 7);
+        fault("bars 1=1 and got=1;", 5, 13);
+        fault("bars 1=1 or 1=1 and not 1=got;", 5, 26);
+        fault("bars 1=1 or 10000=1;", 2, 12);
+        fault("bars 1=(got);", 5, 8);
+        fault("worth 1+2*3-4/5%who;", 5, 16);
         fault("clock", 1, 0);
         // 6: clauses
         fault(times(24, "near 0,1;"), 0, -1);
@@ -392,9 +400,23 @@ public final class PromisesTest {
         bar("who=0 or who=1 and who=2", false);
         bar("who=1 and who=1 and who=0", false);
         bar("who=0 or who=2 or who=1", true);
+        for (String so : new String[] {"clock<6", "clock<=5", "clock>4", "clock>=5", "clock=5", "clock#4"}) {
+            bar(so + " and who=1", true);
+            bar("who=1 and " + so, true);
+            bar(so + " and who=0", false);
+            bar("not " + so, false);
+            bar("not not " + so, true);
+            bar(so + " or who=0", true);
+        }
         bar("clock-number*first=-1", true);
         bar("1=0;bars who=1", true);
         bar("who=0;bars who=2", false);
+        // what was read of faulty ones leaves nothing behind
+        NumberComes again = with(1, 0);
+        for (int i = 0; i < 5; i++) due("faulty", -1, read(again, "bars 1=1" + times(60, "+1+1") + "+got;"));
+        ruled(again, "bars " + times(60, "1+1-") + "clock=0-1;");
+        no("barred", again.speaks(0, 3));
+        yes("not barred", again.speaks(0, 4));
         // the clock is the hour's, by a day too
         NumberComes x = ruled(with(1, 0), "bars clock=3;");
         x.clock(5);
@@ -496,6 +518,17 @@ public final class PromisesTest {
         y.clock(6);
         ruled(y, "bars clock=0;");
         due("always barred by a clock", -1, y.next(3, 0));
+        NumberComes once = ruled(with(4, 1), "bars clock#3;");
+        once.clock(4);
+        due("never at 3", -1, once.next(1, 0));
+        once.change(0, 4, 3);
+        due("always at 3", 3, once.next(1, 0));
+        once.day(7);
+        once.change(0, 1, 0);
+        due("by a day: 3", 3, once.next(1, 1));
+        due("by a day: 7", 7, once.next(1, 4));
+        once.by(-1);
+        for (int i = 0; i < 20; i++) due("every hour", i, once.next(1, i));
         y.clock(12);
         due("barred by a clock now and then", 6, y.next(3, 0));
         due("barred by a clock now and then", 18, y.next(3, 7));
@@ -529,6 +562,23 @@ public final class PromisesTest {
         due("hour 4 of five", 4, y.next(31, 0));
         y.person(9929, 5);
         due("six, far", -2, y.next(63, 0));
+        y.change(5, 9929, 3);
+        due("six, hour 4 isn't one's", -2, y.next(63, 0));
+        y.change(5, 9929, 4);
+        due("six, hour 4", 4, y.next(63, 0));
+        // the last hour, and those around it
+        for (int i = -3; i <= 1; i++) {
+            NumberComes w = new NumberComes();
+            for (int n : new int[] {9973, 9967, 9949, 9941}) w.person(n, (int) ((LAST + i) % n));
+            due("around the last hour", i <= 0 ? LAST + i : -2, w.next(15, 0));
+            due("around the last hour", i <= 0 ? 1 : 0, w.together(15, 1, LAST));
+            due("two of them", LAST + i > LAST ? -2 : LAST + i, w.next(3, LAST + i - 2));
+        }
+        NumberComes ten = with(10, 0);
+        ten.day(10);
+        due("the last hour by a day", LAST, ten.next(1, LAST - 3));
+        ten.change(0, 10, 1);
+        due("the one behind it", -2, ten.next(1, LAST - 3));
         // far in one's own reckoning, but two bar it
         NumberComes z = with(9973, 1, 9967, 2, 9949, 3, 9941, 4, 9998, 0, 9996, 1);
         due("two of them bar it", -1, z.next(63, 0));
@@ -785,6 +835,9 @@ public final class PromisesTest {
         y.change(0, 1, 64);
         due("behind it", -1, y.turn(1, 0, -1));
         due("of all", -1, y.turn(3, 0, 1));
+        due("the first hour alone", 1, with(99, 0).turn(1, 0, -1));
+        due("the first hour alone", 0, with(99, 0, 1, 0).turn(3, 0, 0));
+        due("the first hour alone", 1, with(99, 0, 1, 0).turn(3, 0, 1));
         // two who speak in one hour alone
         due("none", -1, with(99, 5, 99, 5).turn(3, 0, -1));
         NumberComes z = with(1, 0, 1, 0, 1, 0, 1, 0, 1, 0, 1, 0, 1, 0, 1, 0, 1, 0, 1, 0, 1, 0, 12, 0);
@@ -935,6 +988,15 @@ public final class PromisesTest {
         due("P is 5040", 32, with(16, 0, 9, 0, 5, 0, 7, 0, 24, 0, 1, 0).cover());
         due("P is 5040 * 2", -2, with(32, 0, 9, 0, 5, 0, 7, 0, 24, 0, 1, 0).cover());
         due("P is above", -2, with(9999, 0, 1, 0).cover());
+        NumberComes square = with(5041, 0, 1, 0);
+        square.clock(1);
+        due("P is 5041", -2, square.cover());
+        square.change(0, 5040, 0);
+        due("P is 5040", 2, square.cover());
+        NumberComes twelve = new NumberComes();
+        for (int i = 0; i < 12; i++) twelve.person(12, i);
+        due("all twelve", 4095, twelve.cover());
+        for (int i = 0; i < 24; i++) due("one hour of them", -1, ruled(with(1, 0), "bars clock=" + i + ";").cover());
         NumberComes y = with(1, 1, 1, 5);
         y.day(10);
         due("by a day: hour 0 of it", -1, y.cover());
@@ -975,6 +1037,7 @@ public final class PromisesTest {
         NumberComes y = with(5, 0, 5, 0, 5, 0, 5, 0, 5, 0, 5, 0);
         due("five", 4, y.apart(31, 4));
         due("six", -1, y.apart(63, 4));
+        due("six who could", -1, with(6, 0, 6, 0, 6, 0, 6, 0, 6, 0, 6, 0).apart(63, 4));
         y.day(7);
         due("a day doesn't count", 4, y.apart(31, 4));
         due("others of five", 3, y.apart(62, 4));
@@ -1283,6 +1346,32 @@ public final class PromisesTest {
         due("the text that ruled", 1, x.about(4));
         due("texts", 2, x.about(3));
         no("it rules", x.speaks(0, 2));
+        // talks and needs that are told anew behind a roll
+        NumberComes z = with(2, 0, 3, 0, 4, 0);
+        z.talk(6, 0, 1);
+        z.talk(7, 0, 1);
+        z.need(0, 1, 2, 7);
+        z.need(1, 2, 2, 12);
+        read(z, "person 9 from 1;person 9 from 1;person 1 from 0;");
+        z.image();
+        z.roll(0);
+        z.talk(1, 2, 0);
+        z.talk(3, 1, 0);
+        z.near(0, 2, true);
+        z.need(2, 0, 999, 3);
+        z.need(2, 0, 1, 9);
+        due("behind the roll", 1, z.judge());
+        due("behind the roll", 0, z.worth(0));
+        due("behind the roll", 1, z.worth(1));
+        z.back();
+        due("talks are back", 1, z.judge());
+        z.near(0, 2, true);
+        z.change(2, 1, 0);
+        due("talks are back", 4, z.overheard(0));
+        due("needs are back", 1, z.worth(0));
+        due("needs are back", 1, z.worth(1));
+        z.change(2, 4, 0);
+        due("needs are back", 0, z.worth(1));
         NumberComes y = with(1, 0);
         due("image of one", 1, y.image());
         y.heard(3, true);
