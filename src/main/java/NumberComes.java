@@ -1612,13 +1612,13 @@ public final class NumberComes {
             if (depth > MOST_PEOPLE || one < 0 || one >= MOST_PEOPLE) {
                 return false;
             }
-            for (long left = hoursOf[one] & free; left != 0; left &= left - 1) {
-                long hour = left & -left;
-                if ((tried & hour) == 0) {
+            long left = hoursOf[one] & free;
+            for (int i = 0; i < HOURS && left >>> i != 0; i++) {
+                long hour = 1L << i;
+                if ((left & hour) != 0 && (tried & hour) == 0) {
                     tried |= hour;
-                    int which = Long.bitCount(hour - 1);
-                    if (holder[which] == NONE || canHold(holder[which], free, depth + 1)) {
-                        holder[which] = one;
+                    if (holder[i] == NONE || canHold(holder[i], free, depth + 1)) {
+                        holder[i] = one;
                         return true;
                     }
                 }
