@@ -232,6 +232,11 @@ final class EdgesOfGifts extends Edges {
         yes("as he was", z.speaks(0, 5));
         no("as he was", z.speaks(0, 6));
         no("the other too", z.speaks(1, 5));
+        z.change(1, 3, 0);
+        due("a given number that is barred", 0, z.give(1, -1));
+        z.given(3);
+        due("one that isn't: 0 3 .. 18", 7, z.give(1, -1));
+        due("one that isn't", 3, z.mend(1));
     }
 
     private static void mend() {
@@ -361,6 +366,7 @@ final class EdgesOfGifts extends Edges {
         due("P is 5040", 2, z.cover());
         z.clock(11);
         due("P is 55440: the clock counts", -2, z.cover());
+        due("P is 5040 * 11: all numbers count", -2, with(5040, 0, 11, 0, 1, 0).cover());
         due("P is 24 * 211", -2, with(211, 0, 1, 0).cover());
         due("P is 24 * 209", 2, with(209, 0, 1, 0).cover());
         due("P is far above", -2, with(9999, 0, 9998, 0, 9997, 0, 9995, 0, 9991, 0, 9973, 0, 9967, 0, 1, 0).cover());
@@ -427,6 +433,11 @@ final class EdgesOfGifts extends Edges {
         due("not of it", -1, x.apart(5, 3));
         for (int who : new int[] {-1, -2, 7, 12, 32, MIN, MAX}) due("who " + who, -1, x.apart(5, who));
         due("9999", -1, with(9999, 0, 2, 0).apart(3, 1));
+        due("62 and 2", -1, with(62, 0, 2, 0).apart(3, 1));
+        due("60 and 2", 1, with(60, 0, 2, 0).apart(3, 1));
+        due("2 and 62", -1, with(2, 0, 62, 0).apart(3, 0));
+        due("2 alone, though another has 62", 0, with(62, 0, 2, 0).apart(2, 1));
+        due("61 alone", -1, with(61, 0).apart(1, 0));
         refused("apart of one who isn't of it", -1, y -> y.apart(5, 1));
         refusedOn(Edges::full, "apart of six", -1, y -> y.apart(63, 1));
         asks("apart", y -> y.apart(5, 2));
@@ -525,7 +536,10 @@ final class EdgesOfGifts extends Edges {
     private static void pairsOthers() {
         says(37, "PAIRS: who NONE: TOGETHER in all, else his partner. NONE: he isn't of it, and for others.");
         NumberComes x = crowd(12, 1, 0);
-        for (int set : new int[] {1, 7, 31, 127, 511, 1023, 2047, 4095, 4096, 4097, 0, -1}) due("pairs of " + set, -1, x.pairs(set, 5, -1));
+        for (int set : new int[] {1, 7, 31, 127, 511, 1023, 2047, 4095, 4096, 4097, 0, -1}) {
+            due("pairs of " + set, -1, x.pairs(set, 5, -1));
+            due("pairs of " + set + ": one of them", -1, x.pairs(set, 5, 0));
+        }
         due("the last two", 10, x.pairs(1024 + 2048, 5, 11));
         due("not of it", -1, x.pairs(3, 5, 2));
         due("not of it", -1, x.pairs(1024 + 2048, 5, 0));

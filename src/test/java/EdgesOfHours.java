@@ -59,6 +59,15 @@ final class EdgesOfHours extends Edges {
         due("from one ahead of it on", 14, x.next(3, 13));
         due("of one alone", 2, x.next(1, 0));
         due("others don't matter", 0, x.next(4, 0));
+        // by a day the first of several, though others may be barred
+        NumberComes d = with(3, 1);
+        d.day(10);
+        for (int h = 0; h < 10; h++) due("1 4 7 of a day", h <= 1 ? 1 : h <= 4 ? 4 : h <= 7 ? 7 : 11, d.next(1, h));
+        ruled(d, "bars clock=7;");
+        d.clock(10);
+        for (int h = 0; h < 10; h++) due("1 4 of a day", h <= 1 ? 1 : h <= 4 ? 4 : 11, d.next(1, h));
+        ruled(d, "bars clock=1;");
+        for (int h = 0; h < 10; h++) due("4 7 of a day", h <= 4 ? 4 : h <= 7 ? 7 : 14, d.next(1, h));
         due("ahead of the first", 9999, with(2, 9999).next(1, 0));
         due("the first of both matters", 9999, with(1, 9999, 9, 0).next(3, 0));
         due("the first of both matters", 9999, with(9, 0, 1, 9999).next(3, 9991));
@@ -107,6 +116,14 @@ final class EdgesOfHours extends Edges {
         due("the next is above", -2, y.next(7, meet * 1011 + 1));
         due("four of them", -2, y.next(15, 1));
         due("four of them in hour 0", 0, y.next(15, 0));
+        // all four in one hour around the last one, which is the first in which they are
+        for (int i = -2; i <= 2; i++) {
+            NumberComes v = new NumberComes();
+            for (int n : new int[] {9973, 9967, 9949, 9941}) v.person(n, (int) ((LAST + i) % n));
+            due("around the last hour: " + i, i <= 0 ? LAST + i : -2, v.next(15, 0));
+            due("how often around the last hour: " + i, i <= 0 ? 1 : 0, v.together(15, 1, LAST));
+            if (i < 0) due("behind it", -2, v.next(15, LAST + i + 1));
+        }
         NumberComes z = crowd(12, 1, 0);
         int[] primes = {9973, 9967, 9949, 9941, 9931, 9929, 9923, 9907, 9901, 9887, 9883, 9871};
         for (int i = 0; i < 12; i++) z.change(i, primes[i], 77);
@@ -193,6 +210,8 @@ final class EdgesOfHours extends Edges {
         z.change(11, 2, 1);
         due("the last two of twelve", 10, z.barred(4095, 0));
         due("the last two of twelve", 11, z.barred(4095, 1));
+        due("alike", -1, with(4, 1, 4, 1).barred(3, 0));
+        due("firsts that come to 4", 0, with(4, 1, 4, 3).barred(3, 0));
         due("firsts a number apart", -1, with(9999, 0, 9999, 9999).barred(3, 0));
         due("firsts less than it apart", 0, with(9999, 1, 9999, 9999).barred(3, 0));
         due("no common divisor", -1, with(9999, 0, 9998, 9997).barred(3, 0));
@@ -339,6 +358,7 @@ final class EdgesOfHours extends Edges {
         x.near(0, 2, true);
         NumberComes y = with(2, 0, 3, 0);
         due("both speak", 2, y.secret(0, 1, 0, 7));
+        due("one who is near nobody", 10, crowd(3, 1, 0).secret(1, 2, 0, 10));
         due("both speak", 1, y.secret(0, 1, 0, 6));
     }
 

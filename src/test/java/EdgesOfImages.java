@@ -122,6 +122,11 @@ final class EdgesOfImages extends Edges {
         due("a need is the first", 0, x.need(0, 1, 1, 1));
         due("its worth", 1, x.worth(0));
         // the text that rules bars those who are rolled
+        NumberComes z = rolled("bars number=7;person 7 from 0;person 6 from 0;");
+        z.by(0);
+        z.roll(0);
+        no("7 is barred, though nobody was there before", z.speaks(0, 0));
+        yes("6 isn't", z.speaks(1, 0));
         yes("5 is barred at 3 only", x.speaks(1, 5));
         no("5 of a day of 9, in 59, which is 3 by 7", x.speaks(1, 59));
     }
@@ -207,17 +212,17 @@ final class EdgesOfImages extends Edges {
         read(y, "person 1 from 0;person 1 from 0;person 1 from 0;");
         y.talk(6, 0, 1);
         y.talk(9, 0, 1);
-        y.need(0, 1, 2, 7);
+        y.need(0, 1, 3, 7);
         y.image();
         y.roll(0);
         y.talk(1, 1, 2);
         y.talk(2, 1, 2);
-        y.need(1, 2, 9, 3);
+        y.need(1, 2, 1, 3);
         due("behind the roll", -1, y.judge());
-        due("behind the roll", 0, y.worth(0));
+        due("behind the roll", 1, y.worth(0));
         due("back", 3, y.back());
         due("talks are so again", 1, y.judge());
-        due("needs are so again", 1, y.worth(0));
+        due("needs are so again: 0 6 are two", 0, y.worth(0));
         NumberComes z = with(1, 5, 1, 0);
         z.image();
         z.heard(4, true);

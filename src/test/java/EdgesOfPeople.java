@@ -120,6 +120,9 @@ final class EdgesOfPeople extends Edges {
         due("back", 0, y.about(300));
         due("anew", 1, y.person(3, 0));
         due("near nobody", 0, y.about(301));
+        ruled(y, "bars number=7;");
+        due("one who comes while a text rules", 2, y.person(7, 0));
+        no("he is barred", y.speaks(2, 0));
         due("nor he to others", 0, y.about(300));
     }
 
@@ -144,6 +147,15 @@ final class EdgesOfPeople extends Edges {
         y.near(0, 1, true);
         y.change(0, 2, 2);
         due("near stays", 2, y.about(300));
+        // what bars him is what he has now
+        NumberComes w = ruled(with(3, 0), "bars number=2 or first=1;");
+        yes("number 3", w.speaks(0, 6));
+        w.change(0, 2, 0);
+        no("number 2 is barred", w.speaks(0, 6));
+        w.change(0, 1, 1);
+        no("first 1 is barred", w.speaks(0, 6));
+        w.change(0, 1, 0);
+        yes("neither is barred", w.speaks(0, 6));
         says(3, "False, changing nothing, for others.");
         refused("change(-1, 5, 5)", 0, z -> z.change(-1, 5, 5) ? 1 : 0);
         refused("change(4, 5, 5) of four", 0, z -> z.change(4, 5, 5) ? 1 : 0);

@@ -121,6 +121,12 @@ final class EdgesOfTalks extends Edges {
         due("near others", 2 + 1024, x.overheard(0));
         x.change(1, 2, 0);
         due("he doesn't speak then", 1024, x.overheard(0));
+        NumberComes z = crowd(12, 1, 0);
+        z.talk(5, 4, 7);
+        due("nobody is near these", 0, z.overheard(0));
+        z.near(0, 7, true);
+        z.near(11, 4, true);
+        due("the first and the last", 2049, z.overheard(0));
         x.change(0, 2, 0);
         due("even if one of both doesn't", 1024, x.overheard(0));
         for (int i = 1; i < 11; i++) {

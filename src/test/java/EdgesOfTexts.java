@@ -184,6 +184,18 @@ final class EdgesOfTexts extends Edges {
         x.person(1, 0);
         x.by(0);
         no("it is another one", x.speaks(0, 7));
+        // nothing is left of what was read there before: neither clauses nor what they reckon
+        NumberComes y = new NumberComes();
+        read(y, "person 1 from 0;".repeat(3) + "worth 1;");
+        y.back();
+        due("text 0 anew", 0, read(y, "person 2 from 0;worth 2;"));
+        y.roll(0);
+        due("one alone", 1, y.about(0));
+        NumberComes z = with(1, 0);
+        for (int i = 0; i < 5; i++) due("faulty", -1, read(z, "bars 1=1" + "+1".repeat(140) + "+got;"));
+        ruled(z, "bars " + "1+1-".repeat(60) + "clock=0-1;");
+        no("all its steps are done: 2 less 3", z.speaks(0, 3));
+        yes("all its steps are done: 2 less 4", z.speaks(0, 4));
         yes("and not the old one", x.speaks(0, 0));
     }
 
