@@ -1771,7 +1771,19 @@ public final class NumberComes {
             }
             // All firsts can be moved alike: so the lowest one's is 0.
             choices[0] = 1;
-            return place(0);
+            return areSharing() && place(0);
+        }
+
+        /** Two whose numbers share no divisor meet, whatever their firsts are. */
+        private boolean areSharing() {
+            for (int i = 0; i < parted && i < MOST_PARTED; i++) {
+                for (int j = i + 1; j < parted && j < MOST_PARTED; j++) {
+                    if (gcd(now.number[members[i]], now.number[members[j]]) == 1) {
+                        return false;
+                    }
+                }
+            }
+            return true;
         }
 
         /** From this on a first does what a lesser one does: it is at most the number. */
