@@ -116,6 +116,7 @@ final class EdgesOfHours extends Edges {
         due("the next is above", -2, y.next(7, meet * 1011 + 1));
         due("four of them", -2, y.next(15, 1));
         due("four of them in hour 0", 0, y.next(15, 0));
+        farSteps();
         // all four in one hour around the last one, which is the first in which they are
         for (int i = -2; i <= 2; i++) {
             NumberComes v = new NumberComes();
@@ -130,6 +131,31 @@ final class EdgesOfHours extends Edges {
         due("all twelve", 77, z.next(4095, 0));
         due("all twelve then", -2, z.next(4095, 78));
         due("all twelve from the last hour on", -2, z.next(4095, LAST));
+    }
+
+    /** They all meet again only 10 to the 15 less 55 hours later, and others one more than 10 to the 15 later. */
+    private static void farSteps() {
+        int[][] orders = {{5, 49, 81, 109, 443, 521, 2003}, {2003, 521, 443, 109, 81, 49, 5}, {2003, 5, 521, 49, 443, 81, 109}};
+        for (int[] numbers : orders) {
+            for (int first = 53; first <= 57; first++) {
+                NumberComes x = new NumberComes();
+                for (int n : numbers) x.person(n, first);
+                due("all from " + first, first, x.next(127, 0));
+                due("all from " + first + " again", first <= 55 ? LAST - 55 + first : -2, x.next(127, first + 1));
+                due("all from " + first + ", how often", first <= 55 ? 2 : 1, x.together(127, 1, LAST));
+                due("all from " + first + ", how often ahead of the last hour", first < 55 ? 2 : 1, x.together(127, 0, LAST));
+            }
+        }
+        for (int[] numbers : new int[][] {{7, 11, 13, 211, 241, 2161, 9091}, {9091, 2161, 241, 211, 13, 11, 7}}) {
+            NumberComes x = new NumberComes();
+            for (int n : numbers) x.person(n, 0);
+            due("in hour 0", 0, x.next(127, 0));
+            due("and one behind the last", -2, x.next(127, 1));
+            due("how often", 0, x.together(127, 1, LAST));
+            for (int i = 0; i < 7; i++) x.change(i, numbers[i], numbers[i] - 1);
+            due("one earlier is the last", LAST, x.next(127, 0));
+            due("how often", 1, x.together(127, 1, LAST));
+        }
     }
 
     private static void nextNone() {
