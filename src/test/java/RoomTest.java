@@ -1,12 +1,25 @@
 import java.lang.management.ManagementFactory;
+import java.lang.reflect.Array;
+import java.lang.reflect.Field;
+import java.lang.reflect.Modifier;
+import java.nio.file.Files;
+import java.nio.file.Path;
+import java.util.ArrayDeque;
+import java.util.Collections;
+import java.util.Deque;
+import java.util.IdentityHashMap;
+import java.util.Set;
 
 /** All calls of a run live in one room: a new object is small, and no call makes anything that stays or goes. */
 public final class RoomTest {
     private static final int OBJECTS = 100;
     private static final long MOST_BYTES_OF_ONE = 40000;
+    private static final int MOST_OBJECTS_OF_ONE = 100;
+    private static final int MOST_ELEMENTS_OF_ONE = 5000;
     private static long sum = 0;
 
-    public static void main(String[] args) {
+    public static void main(String[] args) throws Exception {
+        boolean good = isSmall(new NumberComes());
         com.sun.management.ThreadMXBean counter = (com.sun.management.ThreadMXBean) ManagementFactory.getThreadMXBean();
         long thread = Thread.currentThread().getId();
         all(new NumberComes());
@@ -22,10 +35,39 @@ public final class RoomTest {
         long each = (made - start) / OBJECTS;
         long byCalls = called - made;
         System.out.println("bytes of a new object: " + each + ", of all calls on " + OBJECTS + " objects: " + byCalls + " (" + sum + ")");
-        if (each > MOST_BYTES_OF_ONE || byCalls > 10000) {
+        if (!good || each > MOST_BYTES_OF_ONE || byCalls > 10000) {
             System.out.println("too much");
             System.exit(1);
         }
+    }
+
+    /** Counts a new object, with all that it holds, as the room does: objects and arrays, fields and elements. */
+    private static boolean isSmall(NumberComes x) throws Exception {
+        Set<Object> seen = Collections.newSetFromMap(new IdentityHashMap<>());
+        Deque<Object> left = new ArrayDeque<>();
+        left.add(x);
+        seen.add(x);
+        int elements = 0;
+        while (!left.isEmpty()) {
+            Object o = left.remove();
+            if (o.getClass().isArray()) {
+                elements += Array.getLength(o);
+                if (o instanceof Object[] all) for (Object inside : all) if (inside != null && seen.add(inside)) left.add(inside);
+                continue;
+            }
+            for (Field f : o.getClass().getDeclaredFields()) {
+                if (Modifier.isStatic(f.getModifiers())) continue;
+                elements++;
+                f.setAccessible(true);
+                Object inside = f.getType().isPrimitive() ? null : f.get(o);
+                if (inside != null && seen.add(inside)) left.add(inside);
+            }
+        }
+        System.out.println("a new object: " + seen.size() + " objects and arrays, " + elements + " fields and elements");
+        String told = String.format(java.util.Locale.ROOT, "some %d objects and %,d elements", (seen.size() + 5) / 10 * 10, (elements + 50) / 100 * 100);
+        boolean isTold = Files.readString(Path.of("README.md")).contains(told);
+        if (!isTold) System.out.println("README.md doesn't say: " + told);
+        return isTold && seen.size() <= MOST_OBJECTS_OF_ONE && elements <= MOST_ELEMENTS_OF_ONE;
     }
 
     /** Every call of the face at least once, with a text that bars and weighs. */
